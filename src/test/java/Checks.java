@@ -1,6 +1,7 @@
 /** Counts and prints the answers that are not as due. */
 final class Checks {
     private final String name;
+    private String sentence = "";
     private int answers;
     private int wrong;
 
@@ -8,11 +9,16 @@ final class Checks {
         this.name = name;
     }
 
+    /** The sentence of the document that the next answers are about; it is printed with a wrong one. */
+    void about(String newSentence) {
+        sentence = newSentence.isEmpty() ? "" : "[" + newSentence + "] ";
+    }
+
     void due(String call, int got, int want) {
         answers++;
         if (got != want) {
             wrong++;
-            System.out.println(name + ": " + call + " answered " + got + ", due is " + want);
+            System.out.println(name + ": " + sentence + call + " answered " + got + ", due is " + want);
         }
     }
 

@@ -23,9 +23,10 @@ public final class LanguageTest {
     };
     private static final String[] CONSTANTS = {"INVALID_ARGUMENT", "NOT_POSSIBLE", "LIMIT_REACHED", "NOT_FOUND"};
     private static final String[] FORBIDDEN = {
-        "\\bthrows?\\b", "\\btry\\b", "\\bcatch\\b", "\\bsynchronized\\b", "\\bassert\\b", "\\bimport\\b", "\\bpackage\\b",
-        "->", "::", "\\bstatic\\s*\\{", "Exact\\b", "\\bequals\\b", "\\bhashCode\\b", "\\btoString\\b", "\\bObject\\b",
-        "\\bvar\\b", "\\bgetClass\\b", "\\bnew\\s+\\w+\\s*\\([^)]*\\)\\s*\\{", "\\bSystem\\.(?!arraycopy)", "\"", "\\bprotected\\b"
+        "\\bthrows?\\b", "\\btry\\b", "\\bcatch\\b", "\\bsynchronized\\b", "\\bassert\\b", "\\bimport\\b",
+        "\\bpackage\\b", "->", "::", "\\bstatic\\s*\\{", "Exact\\b", "\\bequals\\b", "\\bhashCode\\b", "\\btoString\\b",
+        "\\bObject\\b", "\\bvar\\b", "\\bgetClass\\b", "\\bnew\\s+\\w+\\s*\\([^)]*\\)\\s*\\{",
+        "\\bSystem\\.(?!arraycopy)", "\"", "\\bprotected\\b"
     };
 
     private final Checks checks = new Checks("LanguageTest");

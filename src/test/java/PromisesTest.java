@@ -1,12 +1,6 @@
 /** The promises of the document, one method each, with answers that were worked out by hand. */
-public final class PromisesTest {
-    private static final int INVALID = -1000001;
-    private static final int IMPOSSIBLE = -1000002;
-    private static final int LIMIT = -1000003;
-    private static final int NOTHING = -1000004;
+public final class PromisesTest extends TestOfBlinds {
     private static final int[] FAR_ARGUMENTS = {Integer.MIN_VALUE, -1000, -1, 1000, Integer.MAX_VALUE};
-
-    private final Checks checks = new Checks("PromisesTest");
 
     public static void main(String[] args) {
         PromisesTest test = new PromisesTest();
@@ -36,34 +30,6 @@ public final class PromisesTest {
         test.play();
         test.farArguments();
         test.checks.end();
-    }
-
-    private void due(String call, int got, int want) {
-        checks.due(call, got, want);
-    }
-
-    /** The number that tells letters from a to p. */
-    private static int letters(String text) {
-        int packed = 0;
-        for (char letter : text.toCharArray()) {
-            packed = packed * 32 + letter - 'a' + 1;
-        }
-        return packed;
-    }
-
-    private static FlippedBlinds withWords(String... words) {
-        FlippedBlinds x = new FlippedBlinds();
-        for (String word : words) {
-            x.word(letters(word));
-        }
-        return x;
-    }
-
-    private static void typeAll(FlippedBlinds x, String text) {
-        x.clearText();
-        for (char sign : text.toCharArray()) {
-            x.type(sign);
-        }
     }
 
     private void newObject() {
@@ -680,30 +646,27 @@ public final class PromisesTest {
         for (int what = 0; what < 3; what++) {
             due("no text", x.fault(what), NOTHING);
         }
-        dueFault(x, "wa;", 0, 2, IMPOSSIBLE);
-        dueFault(x, "wb;wb;", 3, 2, IMPOSSIBLE);
-        dueFault(x, "s1,0;", 0, 2, INVALID);
-        dueFault(x, "s0,2;", 0, 2, INVALID);
-        dueFault(x, "wh;s01,00;s2,0;", 10, 2, INVALID);
-        dueFault(x, "waaaaa;s1,1;", 7, 2, IMPOSSIBLE);
-        dueFault(x, "b0;b1;b2;", 6, 2, INVALID);
-        dueFault(x, "k0,23,4,2;k0,24,0,0;", 10, 2, INVALID);
-        dueFault(x, "k1,15,4,2;k1,16,0,0;", 10, 2, INVALID);
-        dueFault(x, "k0,0,5,0;", 0, 2, INVALID);
-        dueFault(x, "k0,0,0,3;", 0, 2, INVALID);
-        dueFault(x, "r0,23;r1,16;", 6, 2, INVALID);
-        dueFault(x, "wb;wc;wd;we;wf;wg;wh;wi;wj;wk;", 27, 2, LIMIT);
-        dueFault(x, "s1,0;x", 0, 2, INVALID);
-        dueFault(x, "b0;x", 3, 1, 0);
-        due("asking is no change", x.count(5), 1);
-        due("nor adds words", x.count(0), 1);
-        dueNoFault(x, "wb;s1,0;s1,1;k0,0,0,1;r0,0;b1;");
-        dueNoFault(x, "wabcdef;wp;s02,01;");
+        dueFault("wa;", 0, 2, IMPOSSIBLE);
+        dueFault("wb;wb;", 3, 2, IMPOSSIBLE);
+        dueFault("s1,0;", 0, 2, INVALID);
+        dueFault("s0,2;", 0, 2, INVALID);
+        dueFault("wh;s01,00;s2,0;", 10, 2, INVALID);
+        dueFault("waaaaa;s1,1;", 7, 2, IMPOSSIBLE);
+        dueFault("b0;b1;b2;", 6, 2, INVALID);
+        dueFault("k0,23,4,2;k0,24,0,0;", 10, 2, INVALID);
+        dueFault("k1,15,4,2;k1,16,0,0;", 10, 2, INVALID);
+        dueFault("k0,0,5,0;", 0, 2, INVALID);
+        dueFault("k0,0,0,3;", 0, 2, INVALID);
+        dueFault("r0,23;r1,16;", 6, 2, INVALID);
+        dueFault("wb;wc;wd;we;wf;wg;wh;wi;wj;wk;", 27, 2, LIMIT);
+        dueFault("s1,0;x", 0, 2, INVALID);
+        dueFault("b0;x", 3, 1, 0);
+        dueOrders("wb;s1,0;s1,1;k0,0,0,1;r0,0;b1;", 6);
+        dueOrders("wabcdef;wp;s02,01;", 3);
     }
 
     /** Texts that are not of the form, at the first order. */
     private void faultForms() {
-        FlippedBlinds x = withWords("a");
         String[] texts = {
             ";", "x", " ", "W", "w", "w;", "wq;", "wA;", "w`;", "wabcdefg;", "wabcdef", "wabc d;", "wa", "wab,",
             "s", "s;", "s,", "s0", "s0;", "s0,", "s0,;", "s0,0", "s00,00", "s000,0;", "s0,000;", "s0,0,0;", "s-1,0;",
@@ -718,26 +681,8 @@ public final class PromisesTest {
         };
         due("a number for each text", texts.length, breaks.length);
         for (int i = 0; i < texts.length && i < breaks.length; i++) {
-            dueFault(x, texts[i], 0, 1, breaks[i]);
-            dueFault(x, "b00;" + texts[i], 4, 1, breaks[i]);
-        }
-    }
-
-    private void dueFault(FlippedBlinds x, String text, int place, int reason, int cause) {
-        typeAll(x, text);
-        due("place of '" + text + "'", x.fault(0), place);
-        due("reason of '" + text + "'", x.fault(1), reason);
-        due("cause of '" + text + "'", x.fault(2), cause);
-        due("what 3 of '" + text + "'", x.fault(3), INVALID);
-        int states = x.count(5);
-        due("play of '" + text + "'", x.play(), IMPOSSIBLE);
-        due("no state of '" + text + "'", x.count(5), states);
-    }
-
-    private void dueNoFault(FlippedBlinds x, String text) {
-        typeAll(x, text);
-        for (int what = 0; what < 3; what++) {
-            due("fault of '" + text + "'", x.fault(what), NOTHING);
+            dueFault(texts[i], 0, 1, breaks[i]);
+            dueFault("b00;" + texts[i], 4, 1, breaks[i]);
         }
     }
 
