@@ -24,6 +24,7 @@ public final class EdgesOfAnswersTest extends TestOfBlinds {
         test.closestOfFewerThanTwo();
         test.closestAtUnlikeShifts();
         test.closestAtTheEnds();
+        test.closestOnUnlikeBlinds();
         test.closestOfSeveral();
         test.closestWithStuckDiscs();
         test.bestRepairAtEachEnd();
@@ -448,6 +449,15 @@ public final class EdgesOfAnswersTest extends TestOfBlinds {
         // 6 dots are. So it stands at the shift 0 only if all else is at its last one.
         due("j is the higher one", withWords("illlll", "j").closest(0, 2), 9 + 5 * 7 + 6 - 2 * 5);
         due("j is the lower one", withWords("j", "illlll").closest(0, 2), 9 + 5 * 7 + 6 - 2 * 5);
+    }
+
+    private void closestOnUnlikeBlinds() {
+        sentence("Promise 14: the two words that are most alike on a blind");
+        // If they stand four columns apart, l on l, only two j of 6 dots are unlike; the narrow blind has no
+        // such room. At the same shift j, 11152, and l, 44447, are 9 dots apart, twice.
+        FlippedBlinds x = withWords("jlll", "lllj");
+        due("four columns apart", x.closest(0, 2), 2 * 6);
+        due("at the same shift", x.closest(1, 2), 2 * 9);
     }
 
     private void closestOfSeveral() {

@@ -12,7 +12,7 @@ import java.util.TreeSet;
 import java.util.regex.Matcher;
 import java.util.regex.Pattern;
 
-/** Those rules of ../shared/LANGUAGE.md that can be told from the file or from its classes. */
+/** The face, and those rules of ../shared/LANGUAGE.md that can be told from the classes or from the words of the file. */
 public final class LanguageTest {
     private static final Path FILE = Path.of("src/main/java/FlippedBlinds.java");
     private static final String[] FACE = {
@@ -36,7 +36,7 @@ public final class LanguageTest {
         test.face();
         test.classesInside();
         test.words(Files.readString(FILE));
-        test.methodLengths(Files.readAllLines(FILE));
+        test.lineLengths(Files.readAllLines(FILE));
         test.checks.end();
     }
 
@@ -107,7 +107,6 @@ public final class LanguageTest {
             }
             checks.holds(one + " has at most twenty fields", fields <= 20);
             for (Method method : one.getDeclaredMethods()) {
-                checks.holds(method + " takes at most seven", method.getParameterCount() <= 7);
                 checks.holds(method + " bears a name of its own",
                     one == FlippedBlinds.class || !isOfFace(method.getName()));
             }
@@ -125,18 +124,9 @@ public final class LanguageTest {
         }
     }
 
-    /** Methods start and end at a depth of four or eight blanks. */
-    private void methodLengths(List<String> lines) {
-        int start = 0;
+    private void lineLengths(List<String> lines) {
         for (int i = 0; i < lines.size(); i++) {
-            String line = lines.get(i);
-            if (line.matches(" {4}( {4})?(?!for|if|while|switch)\\w[\\w\\[\\] ]*\\(.*\\) \\{")) {
-                start = i;
-            }
-            if (line.matches(" {4}( {4})?\\}")) {
-                checks.holds("the method at line " + (start + 1) + " is short", i - start < 60);
-            }
-            checks.holds("line " + (i + 1) + " is not too long", line.length() <= 120);
+            checks.holds("line " + (i + 1) + " is not too long", lines.get(i).length() <= 120);
         }
     }
 }

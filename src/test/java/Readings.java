@@ -9,6 +9,8 @@ final class Readings {
     private static final int DISC_PORTIONS = 8;
     private static final int PORTIONS = DISC_PORTIONS + 7;
     private static final int MOST_UNDOS = 5;
+    /** The parts that are read without any undo. */
+    static final int PARTS_OF_NOW = PORTIONS;
     static final int PARTS = PORTIONS * (MOST_UNDOS + 1);
 
     private final FlippedBlinds x;

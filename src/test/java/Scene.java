@@ -44,6 +44,16 @@ final class Scene {
         checks.holds(name + ": " + call + " leaves all unchanged", true);
     }
 
+    /** Other calls lead to the same, but for what the states of the history are. */
+    void ledToBy(String otherName, Consumer<FlippedBlinds> otherCalls) {
+        for (int part = 0; part < Readings.PARTS_OF_NOW; part++) {
+            FlippedBlinds x = new FlippedBlinds();
+            otherCalls.accept(x);
+            checks.holds(name + ": " + otherName + " leads to the same " + Readings.name(part),
+                Readings.of(x, part).equals(readings.get(part)));
+        }
+    }
+
     /** An argument has this least and this greatest value: one beyond each is refused, and all beyond. */
     void range(String call, int least, int greatest, OpenCall open) {
         for (int value : new int[] {least, greatest}) {
